@@ -1712,11 +1712,7 @@ public final class LastCatch {
             int best = NONE;
             for (int move = 0; move <= STILL; move++) {
                 int to = Sea.beside(cell, move);
-                if (to == NONE) {
-                    continue;
-                }
-                int taken = catchAt(day + 1, to, caught);
-                int sum = sizesOf(taken) + mostFrom(day + 1, to, caught | taken);
+                int sum = to == NONE ? NONE : mostBy(day + 1, to, caught);
                 if (sum > best) {
                     best = sum;
                     if (day == 0) {
@@ -1725,6 +1721,11 @@ public final class LastCatch {
                 }
             }
             return best;
+        }
+
+        private int mostBy(int day, int cell, int caught) {
+            int taken = catchAt(day, cell, caught);
+            return sizesOf(taken) + mostFrom(day, cell, caught | taken);
         }
 
         private int catchAt(int day, int cell, int caught) {
