@@ -1136,18 +1136,23 @@ public final class LastCatch {
         }
 
         void remember(Sea sea) {
-            seas[next].copyFrom(sea);
-            next = (next + 1) % MOST;
-            count = Math.min(MOST, count + 1);
+            Sea place = seas[next];
+            if (place != null) {
+                place.copyFrom(sea);
+                next = (next + 1) % MOST;
+                count = Math.min(MOST, count + 1);
+            }
         }
 
         boolean bringBack(Sea sea) {
-            if (count == 0) {
+            int latest = (next + MOST - 1) % MOST;
+            Sea place = seas[latest];
+            if (count == 0 || place == null) {
                 return false;
             }
             count--;
-            next = (next + MOST - 1) % MOST;
-            sea.copyFrom(seas[next]);
+            next = latest;
+            sea.copyFrom(place);
             return true;
         }
     }

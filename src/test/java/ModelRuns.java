@@ -214,8 +214,22 @@ public final class ModelRuns {
     if (!oneIn(3)) law();
     int until = 60 + n(450);
     while (calls < until) {
-      if (oneIn(3)) act(); else look();
+      if (oneIn(25)) wild(); else if (oneIn(3)) act(); else look();
     }
+  }
+
+  private static final int[] WILD = {Integer.MIN_VALUE, Integer.MIN_VALUE + 1, -100, -2, -1, 0, 1, 2, 3, 4, 5, 6, 8, 9, 10, 12, 13, 20, 24, 25, 32, 60, 61, 99, 100, 400, 999, 1000, Integer.MAX_VALUE - 1, Integer.MAX_VALUE};
+
+  /** Any call of the face with any numbers. */
+  private void wild() throws Exception {
+    List<String> names = new ArrayList<>(OURS.keySet());
+    java.util.Collections.sort(names);
+    String name = names.get(n(names.size()));
+    Class<?>[] types = OURS.get(name).getParameterTypes();
+    Object[] args = new Object[types.length];
+    boolean any = oneIn(2);
+    for (int i = 0; i < args.length; i++) args[i] = types[i] == boolean.class ? (Object) oneIn(2) : (Object) (any || oneIn(3) ? WILD[n(WILD.length)] : n(5));
+    call(name, args);
   }
 
   private void act() throws Exception {

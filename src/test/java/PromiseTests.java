@@ -174,6 +174,11 @@ public final class PromiseTests {
     is("of a wrong text nothing stays", y.count(0) * 100000 + y.count(1) * 10000 + y.count(2) * 1000 + y.count(3) * 100 + y.count(6) + y.count(8), 100010);
     is("nor a current", y.cell(1, 0), 4);
     is("used up too", y.end(1), false);
+    is("day 0", sea("day 7", "day 0").count(8), 0);
+    is("heads 24", sea("boat hold 1 heads 24").boat(0, 1), 24);
+    is("least 0", sea("buyer god money 0 least 0").buyer(0, 2), 0);
+    is("least untold", sea("buyer god money 0").buyer(0, 2), 0);
+    is("at untold", sea("boat hold 1").boat(0, 0), 0);
   }
 
   static void promise5() {
@@ -206,6 +211,12 @@ public final class PromiseTests {
     is("the law stays", y.fish(0, 7), 50);
     is("lines stay", y.count(5), 4);
     is("used up", y.end(1), false);
+    LastCatch z = sea("fish god at 0 size 1 fresh 0");
+    String[] sums = {"1 + 1 + 1 > 2", "2 < 1 + 1 + 1", "5 > 1 + 1", "3 + 2 + 1 > 5", "1 + 2 < 4", "999 < 999 + 1", "day+ice+kind > 10"};
+    for (String c : sums) { law(z, "dear 5 if " + c); is(c, z.fish(0, 7), 7); }
+    String[] less = {"1 + 1 + 1 < 3", "3 > 1 + 1 + 1", "5 < 1 + 1", "1 + 1 > 5", "5 > 1 + 2 + 3", "day+ice+kind > 11"};
+    for (String c : less) { law(z, "dear 5 if " + c); is(c, z.fish(0, 7), 2); }
+    is("keep 0", tape(z, "keep 0;dear 99").law(), 2);
   }
 
   static void promise6() {
@@ -275,6 +286,25 @@ public final class PromiseTests {
     LastCatch y = new LastCatch();
     fails("turned is no text", ARGUMENT, () -> tape(y, 1).turned(false));
     is("fault stays", y.fault(), -1);
+    wrongSea("bay 1", 0);
+    wrongSea("dax 1", 0);
+    wrongSea("days 1", 0);
+    wrongSea("current 25 left", 8);
+    wrongSea("current 3", 9);
+    wrongSea("current 3 north", 10);
+    wrongSea("fish", 4);
+    wrongSea("fish cod at 1 size 1", 5);
+    wrongSea("fish god at 25 size 1", 12);
+    wrongSea("fish god at 1 size 10", 19);
+    wrongSea("boat hold 10", 10);
+    wrongSea("boat hold 0", 10);
+    wrongSea("boat hold 1 at 25", 15);
+    wrongSea("buyer god money 1000", 16);
+    wrongSea("buyer god money 1 least 100", 24);
+    wrongSea("dead god breath 100", 16);
+    wrongSea("ice 1000", 4);
+    wrongSea("\u00ff", 0);
+    wrongLaw("keep 1 if kinds > 1", 10);
   }
 
   static void promise7() {
@@ -298,6 +328,13 @@ public final class PromiseTests {
     is("the last", x.cell(24, 0), 4);
     for (int c : new int[] {-1, 25, Integer.MIN_VALUE, Integer.MAX_VALUE}) fails("cell " + c, INDEX, () -> x.cell(c, 9));
     for (int w : new int[] {-1, 4}) fails("what " + w, ELEMENT, () -> x.cell(0, w));
+    LastCatch y = new LastCatch();
+    for (int c = 0; c < 25; c++) for (int way = 0; way < 4; way++) {
+      y.current(c, way);
+      int nx = c % 5 + (way == 0 ? -1 : way == 1 ? 1 : 0), ny = c / 5 + (way == 2 ? -1 : way == 3 ? 1 : 0);
+      is("drift of " + c + " by " + way, y.cell(c, 1), nx < 0 || nx > 4 || ny < 0 || ny > 4 ? c : 5 * ny + nx);
+      y.current(c, 4);
+    }
   }
 
   static void promise8() {
@@ -333,6 +370,21 @@ public final class PromiseTests {
     fails("fish -1", INDEX, () -> x.fish(-1, 99));
     fails("what 10", ELEMENT, () -> x.fish(0, 10));
     fails("what -1", ELEMENT, () -> x.fish(0, -1));
+    LastCatch y = sea("boat hold 1 at 12;fish god at 12 size 1 fresh 59;fish god at 12 size 1");
+    law(y, "keep 4");
+    is("room when the other is turned, in 60 days", y.fish(1, 8), 60);
+    is("not in 61", law(sea("boat hold 1 at 12;fish god at 12 size 1 fresh 60;fish god at 12 size 1"), "keep 4").fish(1, 8), -1);
+    LastCatch z = sea("boat hold 9;boat hold 1 at 12;fish god at 0 size 1;fish tell at 12 size 1 fresh 10;fish tell at 12 size 1;buyer god money 999 keen 100");
+    law(z, "keep 5 if lying < 1");
+    is("no buyer comes", z.fish(2, 8), 3);
+    LastCatch w = sea("boat hold 1 at 12;fish god at 12 size 1;dead god breath 1;dead god breath 1;dead tell breath 1;dead god breath 1");
+    w.days(1);
+    is("its boat's cell", w.fish(0, 4), 12);
+    is("boat 0", w.fish(0, 5), 0);
+    is("maybe many", w.fish(0, 9), 11);
+    LastCatch v = lying("fish god at 0 size 1", "buyer god money 99");
+    v.sell(0, 0);
+    is("sold: no cell, no boat", v.fish(0, 4) * 10 + v.fish(0, 5), -11);
   }
 
   static void promise9() {
@@ -447,6 +499,12 @@ public final class PromiseTests {
     is("full", f.boat(0, 3) * 10 + f.sea(), 12);
     for (int n : new int[] {0, -1, 61, Integer.MAX_VALUE}) fails("days " + n, ARGUMENT, () -> x.days(n));
     is("nothing happened", x.count(8), 1);
+    LastCatch u = sea("boat hold 1 at 20 heads 24;boat hold 1 at 24 heads 20;boat hold 1 at 4 heads 24");
+    u.days(1);
+    is("right, left, down", u.boat(0, 0) * 10000 + u.boat(1, 0) * 100 + u.boat(2, 0), 212309);
+    u.heads(2, 4);
+    u.days(3);
+    is("there and up again", u.boat(0, 0) * 10000 + u.boat(1, 0) * 100 + u.boat(2, 0), 242004);
   }
 
   static void promise13() {
@@ -571,6 +629,9 @@ public final class PromiseTests {
     fails("fish", INDEX, () -> x.where(2, 61));
     fails("n", ARGUMENT, () -> x.where(0, -1));
     fails("n", ARGUMENT, () -> x.where(0, 61));
+    LastCatch y = sea("boat hold 9;boat hold 1 at 12;fish god at 0 size 1;fish tell at 12 size 1 fresh 10;fish tell at 12 size 1;buyer god money 999 keen 100");
+    law(y, "keep 5 if lying < 1");
+    is("no buyer comes", y.where(2, 2) * 100 + y.where(2, 3), 1199);
   }
 
   static void promise22() {
@@ -583,6 +644,13 @@ public final class PromiseTests {
     is("not in the sea", x.meets(1, 1), -1);
     fails("boat", INDEX, () -> x.meets(2, 0));
     fails("fish", INDEX, () -> x.meets(0, 2));
+    LastCatch y = sea("boat hold 1 at 12");
+    for (int c = 0; c < 25; c++) {
+      LastCatch z = sea("boat hold 1 at 12;boat hold 1 at 8;fish god at " + c + " size 1");
+      is("to " + c, z.meets(0, 0), Math.abs(c % 5 - 2) + Math.abs(c / 5 - 2));
+      is("from 8 to " + c, z.meets(1, 0), Math.abs(c % 5 - 3) + Math.abs(c / 5 - 1));
+    }
+    fails("no fish", INDEX, () -> y.meets(0, 0));
   }
 
   static void promise23() {
@@ -614,6 +682,16 @@ public final class PromiseTests {
     fails("boat", INDEX, () -> x.haul(2, 9));
     fails("n", ARGUMENT, () -> x.haul(0, 6));
     fails("n", ARGUMENT, () -> x.haul(0, -1));
+    LastCatch w = sea("fish god at 13 size 2;fish god at 13 size 1;fish god at 13 size 9;boat hold 2 at 12");
+    is("two at once, by numbers", w.haul(0, 1), 3);
+    LastCatch v = sea("current 24 up;current 19 up;current 14 up;current 9 left;fish god at 24 size 5;boat hold 1 at 4");
+    is("it drifts 24 19 14 9 8 8", v.haul(0, 2) * 100 + v.haul(0, 1), 500);
+    is("from far", sea("current 20 right right right right;current 24 up;current 19 up;fish god at 20 size 5;boat hold 1").haul(0, 4), 0);
+    is("by a day", sea("current 20 right right right right;current 24 up;fish god at 20 size 5;boat hold 1 at 9").haul(0, 3), 0);
+    is("in 5 days", sea("current 20 right right right right;current 24 up;fish god at 20 size 5;boat hold 1 at 2;current 19 up;current 14 up").haul(0, 5), 5);
+    LastCatch u = sea("fish god at 15 size 5;boat hold 1 at 24");
+    is("4 days", u.haul(0, 4), 0);
+    is("5 days", u.haul(0, 5), 5);
   }
 
   static void promise25() {
@@ -643,6 +721,8 @@ public final class PromiseTests {
     is("9 is passed by two, 14 by three", x.eddy(), 14);
     x.current(14, 2);
     is("9 and 14 go round, the least", x.eddy(), 9);
+    is("the second", sea("current 0 right").eddy(), 1);
+    is("a round of two counts each once", sea("current 0 right left;current 22 right right").eddy(), 24);
   }
 
   static void promise27() {
@@ -667,6 +747,9 @@ public final class PromiseTests {
     LastCatch z = sea(times(8, "fish god at 0 size 5", ";"), times(6, "dead god tell breath 9", ";"));
     is("one each", z.whose(-1), 6);
     is("in their order", z.whose(5) * 10 - z.whose(6), 51);
+    LastCatch w = sea("fish god at 0 size 3;dead horse breath 99;dead god breath 99");
+    is("put once", w.whose(-1), 1);
+    is("not to one who does not say it", w.whose(0), 1);
   }
 
   static void promise28() {
@@ -734,6 +817,7 @@ public final class PromiseTests {
     fails("odd", ARGUMENT, () -> tape(x, 1).ask());
     fails("42 bytes", ARGUMENT, () -> tape(x, new byte[42]).ask());
     fails("100", ARGUMENT, () -> tape(x, 100, 0).ask());
+    is("no day tells any apart", tape(x, 99, 99).ask(), 0);
   }
 
   static void promise32() {
@@ -753,6 +837,23 @@ public final class PromiseTests {
     is("without buyers", lying("fish god at 0 size 1").sale(-1), 0);
     fails("buyer", INDEX, () -> x.sale(4));
     fails("buyer", INDEX, () -> x.sale(-2));
+    LastCatch z = lying("fish god at 0 size 1;fish god at 0 size 2;fish god at 0 size 3");
+    is("order", z.order(-1), 6);
+    is("no buyers behind an order", z.sale(-1), 0);
+    sea(z, "buyer god money 99;buyer god money 99;buyer god money 99");
+    is("all", z.sale(-1), 36);
+    is("each another one", z.sale(0) * 100 + z.sale(1) * 10 + z.sale(2), 12);
+    LastCatch w = lying("fish god at 0 size 2;fish god at 0 size 1", "buyer god money 99;buyer god money 11");
+    is("the second can't pay the first", w.sale(0) * 10 + w.sale(1), 1);
+    LastCatch v = lying("fish god at 0 size 1;fish god at 0 size 2", "buyer god money 99;buyer god money 11");
+    is("so the first leaves it", v.sale(0) * 10 + v.sale(1), 10);
+    LastCatch u = sea("boat hold 9;" + times(8, "fish god at 0 size 1", ";"), times(5, "buyer god money 99 keen 0", ";"));
+    u.days(1);
+    is("five of eight", u.sale(-1), 50);
+    is("in their order", u.sale(0) * 10000 + u.sale(1) * 1000 + u.sale(2) * 100 + u.sale(3) * 10 + u.sale(4), 1234);
+    LastCatch t = lying("fish god at 0 size 3;fish god at 0 size 2;fish god at 0 size 2", "buyer god money 99;buyer god money 13;buyer god money 14");
+    is("14, 12 and 12", t.sale(-1), 38);
+    is("the third can have any", t.sale(0) * 100 + t.sale(1) * 10 + t.sale(2), 12);
   }
 
   static void promise33() {
@@ -781,6 +882,10 @@ public final class PromiseTests {
     is("11 is 0 by the next day", v.order(0) * 10 + v.order(1), 10);
     is("nothing", new LastCatch().order(-1), 0);
     is("nothing", new LastCatch().order(0), -1);
+    LastCatch u = lying(times(8, "fish god at 0 size 1", ";"));
+    is("eight", u.order(-1), 8);
+    is("the last", u.order(7), 7);
+    is("no ninth", u.order(8), -1);
   }
 
   static void promise35() {
@@ -798,6 +903,9 @@ public final class PromiseTests {
     fails("g", ARGUMENT, () -> x.chase(21, 0));
     fails("t", ARGUMENT, () -> x.chase(0, -1));
     fails("t", ARGUMENT, () -> x.chase(0, 13));
+    for (int g = 1; g <= 20; g++) for (int t = 0; t <= 12; t++) {
+      is("he gains 1 in two turns: chase(" + g + ", " + t + ")", x.chase(g, t), 2 * g - 1 <= t ? 2 * g - 1 : -1);
+    }
   }
 
   static void promise36() {
@@ -817,6 +925,21 @@ public final class PromiseTests {
     is("nothing", new LastCatch().pairs(-1), 0);
     fails("fish", INDEX, () -> x.pairs(4));
     fails("fish", INDEX, () -> x.pairs(-2));
+    LastCatch z = sea("fish tell at 0 size 1;fish god at 0 size 1;fish god at 0 size 9;boat hold 9");
+    is("the greater one", z.pairs(-1) * 100 + z.pairs(0) * 10 + z.pairs(2), 1020);
+    is("none", z.pairs(1), -1);
+    z.days(1);
+    is("order", z.order(-1), 11);
+    is("not mixed up with an order", z.pairs(-1), 10);
+    LastCatch w = sea("fish tell at 1 size 1;fish tell at 1 size 1;fish god at 1 size 1;fish god at 1 size 1;fish saying at 1 size 2");
+    is("two pairs", w.pairs(-1), 5);
+    is("0 is left out", w.pairs(0), -1);
+    is("1 and 2, 3 and 4", w.pairs(1) * 1000 + w.pairs(2) * 100 + w.pairs(3) * 10 + w.pairs(4), 2143);
+    LastCatch v = sea("fish tell at 1 size 1;fish tell at 1 size 1;fish god at 1 size 1;fish god at 1 size 1");
+    is("0 and 2, 1 and 3", v.pairs(0) * 1000 + v.pairs(1) * 100 + v.pairs(2) * 10 + v.pairs(3), 2301);
+    LastCatch u = sea("fish tell at 1 size 1;fish god at 1 size 3;fish horse at 1 size 3;fish horse at 1 size 3;fish horse at 1 size 3;fish horse at 1 size 3;fish horse at 1 size 3;fish saying at 1 size 2");
+    is("eight", u.pairs(-1), 1 + 3 + 2 + 9);
+    is("4 and 5 have none, so 6 has 7", u.pairs(0) * 100 + u.pairs(1) * 10 + u.pairs(7), 236);
   }
 
   static void promise37() {
@@ -936,6 +1059,19 @@ public final class PromiseTests {
     is("seed stays", all.seed(1), 1);
     fails("n", ARGUMENT, () -> x.span(-1, true));
     fails("n", ARGUMENT, () -> x.span(61, false));
+    for (int keen = 1; keen <= 100; keen += 3) for (int n = 0; n <= 18; n += 2) {
+      LastCatch w = sea("boat hold 2;fish tell at 0 size 3;buyer tell money 40 keen " + keen);
+      int[] tills = new int[6];
+      for (int k = 1; k <= 6; k++) {
+        int seed = k;
+        for (int d = 1; d <= n && d < 18 && tills[k - 1] == 0; d++) {
+          seed = 1103515245 * seed + 12345;
+          if ((seed >>> 16 & 32767) % 100 < keen) tills[k - 1] = 6 + (90 - 5 * d) / 10;
+        }
+      }
+      is("least of keen " + keen + " in " + n, w.span(n, false), Arrays.stream(tills).min().getAsInt());
+      is("most of keen " + keen + " in " + n, w.span(n, true), Arrays.stream(tills).max().getAsInt());
+    }
   }
 
   static void promise49() {
@@ -1046,6 +1182,19 @@ public final class PromiseTests {
     is("an image forgets nothing", z.count(11), 1);
     z.back();
     is("going back forgets", z.undo(), false);
+    LastCatch w = sea("boat hold 1;boat hold 1 at 12;fish god at 1 size 1;fish god at 13 size 1");
+    w.heads(0, 1);
+    w.days(1);
+    log(w, 0, 0, 0, 0, 0, 90);
+    w.heads(1, 13);
+    w.days(1);
+    log(w, 0, 1, 1, 0, 1, 90);
+    w.undo();
+    log(w, 0, 0, 0, 0, 0, 90);
+    is("one row", w.count(10), 1);
+    w.undo();
+    w.undo();
+    is("none", w.log(0, 0), -2);
   }
 
   static void promise53() {
@@ -1086,6 +1235,18 @@ public final class PromiseTests {
     is("fault stays", x.fault(), 0);
     is("the tape stays", x.end(4), true);
     is("again", x.back(), true);
+    LastCatch y = sea("boat hold 1;boat hold 1 at 12;fish god at 1 size 1;fish god at 13 size 1");
+    y.heads(0, 1);
+    y.days(1);
+    y.image();
+    y.undo();
+    y.undo();
+    y.heads(1, 13);
+    y.days(1);
+    log(y, 0, 0, 1, 0, 1, 90);
+    y.back();
+    log(y, 0, 0, 0, 0, 0, 90);
+    is("one row", y.count(10), 1);
   }
 
   static void promise55() {
