@@ -1427,6 +1427,15 @@ public final class EdgeTests extends Checks {
     LastCatch few = lying("fish god at 0 size 1", times(5, "buyer god money 99", ";"));
     is("none is the least: the last has it", few.sale(0) + few.sale(1) + few.sale(2) + few.sale(3), -4);
     is("the last", few.sale(4), 0);
+    LastCatch behind = lying("fish god at 0 size 1", "buyer tell money 99;buyer god money 99 keen 0;buyer god money 9 keen 0;buyer god money 99 least 99");
+    is("one who has none, ahead of one who has it", behind.sale(-1) * 10 + behind.sale(1), 100);
+    is("the others", behind.sale(0) + behind.sale(2) + behind.sale(3), -3);
+    behind.days(2);
+    is("one more can have it when it is 75 fresh", behind.buyer(1, 4), 0);
+    is("cheaper than it was", behind.sale(-1), 9);
+    is("in the first way the later one has it", behind.sale(1) * 10 + behind.sale(2), -10);
+    behind.release(0);
+    is("nothing lies there any more", behind.sale(-1) * 10 + behind.sale(2), -1);
   }
 
   private static void orders() {
@@ -1510,6 +1519,12 @@ public final class EdgeTests extends Checks {
     LastCatch y = sea("boat hold 9;fish god at 0 size 1 fresh 1;fish tell at 5 size 1;fish horse at 5 size 1;fish horse at 0 size 1");
     y.days(1);
     is("the gone one is in none", y.pairs(-1) * 10 + y.pairs(0), 19);
+    LastCatch z = sea("boat hold 9;fish god at 0 size 1;fish tell at 0 size 2 fresh 12;buyer god money 99 keen 0");
+    z.days(1);
+    is("order, sale, pairs", z.order(-1) * 1000 + z.sale(-1) * 10 + z.pairs(-1), 3000 + 100 + 3);
+    is("order", z.order(1), 1);
+    z.days(2);
+    is("one alone behind an order of two", z.gone() * 10 + z.pairs(-1) + z.pairs(0), 20 - 1);
     is("1 with 2 or 3", y.pairs(1) * 100 + y.pairs(2) * 10 + y.pairs(3), 200 + 10 - 1);
   }
 
@@ -1523,6 +1538,17 @@ public final class EdgeTests extends Checks {
     refuses("rests", INDEX, n -> x.rests(0, n), -1, 3);
     x.days(1);
     is("on the slab, too", x.rests(0, 0), 4);
+    for (int size = 1; size <= 9; size++) for (int hold = 1; hold <= 9; hold++) {
+      LastCatch y = sea("boat hold " + hold + ";fish god at 1 size " + size);
+      // of casting and waiting each, when it rises and when it dives
+      int[][] he = {{size, -hold}, {1, 0}};
+      int[][] school = {{-size, 1}, {2, 0}};
+      int rests = 0;
+      for (int c = 0; c < 4; c++) {
+        if (he[c / 2][c % 2] >= he[1 - c / 2][c % 2] && school[c / 2][c % 2] >= school[c / 2][1 - c % 2]) rests |= 1 << c;
+      }
+      is("size " + size + ", hold " + hold, y.rests(0, 0), rests);
+    }
 
     sentence("ODDS of N DAYS (0 to 4): in 10000, rounded down at each BUYER of each DAY");
     LastCatch o = sea("buyer god money 1 keen 99;buyer god money 1 keen 1");
